@@ -35,9 +35,8 @@ public final class SlipCovers {
     private final Code fresh = new Code();
     private final History history = new History();
     private final Ground ground = new Ground();
-    private final Balls balls = new Balls();
-    private final Search search = new Search(balls);
-    private final Exchange exchange = new Exchange(balls);
+    private final Search search = new Search();
+    private final Exchange exchange = new Exchange();
     private int latestFault;
     private int latestTrouble;
     private int latestWhere = NONE;
@@ -292,8 +291,7 @@ public final class SlipCovers {
             return refuse(NOT_SO);
         }
         ground.lay(codes[c]);
-        balls.lay(ground, r);
-        search.run();
+        search.run(ground, r);
         return accept(search.told(what));
     }
 
@@ -345,8 +343,7 @@ public final class SlipCovers {
         }
         fresh.copy(codes[c]);
         ground.lay(fresh);
-        balls.lay(ground, r);
-        return act(c, exchange.run(fresh));
+        return act(c, exchange.run(fresh, ground, r));
     }
 
     public int sum(int to, int one, int other) {
@@ -1229,22 +1226,20 @@ public final class SlipCovers {
 
     /** The fewest words by which all are covered, sought step by step. */
     private static final class Search {
-        private final Balls balls;
+        private final Balls balls = new Balls();
         private final int[] row = new int[MOST_TAKEN];
         private int allowed;
         private int found;
         private int steps;
         private boolean isGivenUp;
 
-        Search(Balls balls) {
-            this.balls = balls;
-        }
-
-        void run() {
+        void run(Ground ground, int r) {
+            balls.lay(ground, r);
             found = 0;
             steps = 0;
             isGivenUp = false;
-            for (allowed = 1; allowed <= MOST_TAKEN; allowed++) {
+            for (int n = 1; n <= MOST_TAKEN; n++) {
+                allowed = n;
                 if (seek(0, balls.lowAll(), balls.highAll()) || isGivenUp) {
                     return;
                 }
@@ -1309,7 +1304,7 @@ public final class SlipCovers {
 
     /** Codewords exchanged for other words as long as that leaves fewer holes. */
     private static final class Exchange {
-        private final Balls balls;
+        private final Balls balls = new Balls();
         /** Words that no codeword covers, and those that just one does. */
         private long holesLow;
         private long holesHigh;
@@ -1319,11 +1314,8 @@ public final class SlipCovers {
         private int bestGoing;
         private int bestComing;
 
-        Exchange(Balls balls) {
-            this.balls = balls;
-        }
-
-        int run(Code code) {
+        int run(Code code, Ground ground, int r) {
+            balls.lay(ground, r);
             for (int made = 0; made < MOST_EXCHANGES; made++) {
                 findBest(code);
                 if (bestGoing == NONE) {
