@@ -48,6 +48,15 @@ public final class PromiseBoundsTest {
         check.end();
     }
 
+    /** A model told the same text. */
+    private static Model modelOf(String text) {
+        Model m = new Model();
+        int[] n = Feeding.numbers(text);
+        for (int k = 0; k < n.length; k += 5) m.feed(n[k], n[k + 1], n[k + 2], n[k + 3], n[k + 4]);
+        m.text(text.length());
+        return m;
+    }
+
     private static boolean throwsAt(SlipCovers x, int c, int k) {
         try {
             x.letter(c, k);
@@ -141,6 +150,9 @@ public final class PromiseBoundsTest {
             check.due("n " + n + ", empty", x.bytes(), 0);
             if (n == 14) check.codewords(x, "the first n alone", 0, 0);
         }
+        Feeding.feed(x, "    ");
+        check.due("n 0 of blanks", x.text(0), -1);
+        check.due("its place", x.where(), 0);
         check.due("n 0 of an empty tape", x.text(0), -1);
         check.due("its fault", x.fault(), 1);
         check.due("its place", x.where(), 0);
@@ -461,6 +473,9 @@ public final class PromiseBoundsTest {
         SlipCovers x = Feeding.of("code a on 2 4: 03, 13, 10");
         check.fine(x, "the last digit", x.column(0, 1, 3), 2);
         check.fine(x, "none", x.column(0, 1, 2), 0);
+        x.set(0, 0, true);
+        check.fine(x, "the first word, too", x.column(0, 1, 0), 2);
+        check.fine(x, "the first word, too", x.column(0, 0, 0), 2);
         for (int d : new int[] {-1, 2, 3, LEAST, MOST}) check.refused(x, "digit " + d, x.column(0, 0, d), 2);
         check.refused(x, "digit 4", x.column(0, 1, 4), 2);
         for (int i : new int[] {-1, 2, 8, LEAST, MOST}) check.refused(x, "place " + i, x.column(0, i, -1), 1);
@@ -494,6 +509,9 @@ public final class PromiseBoundsTest {
         }
         check.of("Promise 27: 0, 2 .. 9: -2 if it is given up");
         for (int what = 0; what <= 9; what++) check.fine(x, "what " + what, x.fewest(1, 0, what), what == 1 ? 0 : -2);
+        check.fine(x, "found behind one given up", x.fewest(0, 1, 0), 2);
+        check.fine(x, "given up behind one found", x.fewest(1, 0, 2), -2);
+        check.fine(x, "found behind one given up", x.fewest(0, 1, 3), 7);
         check.of("Promise 27: NONE: 1 (what, too); 2; 5 (more than 81 WORDS)");
         for (int what : new int[] {-1, 10, LEAST, MOST}) check.refused(x, "what " + what, x.fewest(0, 1, what), 1);
         check.refused(x, "what ahead of r", x.fewest(0, 25, 10), 1);
@@ -517,6 +535,15 @@ public final class PromiseBoundsTest {
         check.fine(x, "none", x.set(0, 0, false), 0);
         for (int w = 3; w >= 0; w--) check.fine(x, "word " + w, x.set(0, w, true), 4 - w);
         check.codewords(x, "all", 0, 0, 1, 2, 3);
+        SlipCovers y = Feeding.of("code a on 4 4 4 4: 1000");
+        int[] words = {0, 63, 127, 128, 191, 192, 255};
+        for (int k = 0; k < words.length; k++) check.fine(y, "word " + words[k], y.set(0, words[k], true), k + 2);
+        check.codewords(y, "of 256 words", 0, 0, 63, 64, 127, 128, 191, 192, 255);
+        for (int k = 0; k < words.length; k++) {
+            check.fine(y, "no more " + words[k], y.set(0, words[k], false), 7 - k);
+            check.fine(y, "no more " + words[k], y.has(0, words[k]), 0);
+        }
+        check.codewords(y, "of 256 words", 0, 64);
     }
 
     private static void promise29() {
@@ -540,6 +567,13 @@ public final class PromiseBoundsTest {
         check.codewords(y, "of like ones the first", 1, 0, 1);
         y.mix(1, 1, 1, 2);
         check.fine(y, "without codewords", y.greedy(1, 0), 4);
+        String many = "code a on 3 3 3 3 weigh 1 2 1 2: 0000; code b on 2 2 2 2 2 2 2: 1010101; code c on 4 4 4 4: 0000";
+        SlipCovers z = Feeding.of(many);
+        Model m = modelOf(many);
+        for (int c = 0; c < 3; c++) {
+            check.fine(z, "many come", z.greedy(c, 2), m.greedy(c, 2));
+            for (int k = 0; k < 40; k++) check.due("codeword " + k, z.word(c, k), m.word(c, k));
+        }
         check.of("Promise 29: NONE: 1; 2.");
         check.refused(y, "r", y.greedy(0, 25), 2);
         check.refused(y, "r", y.greedy(0, -1), 2);
@@ -558,6 +592,10 @@ public final class PromiseBoundsTest {
         x.greedy(2, 0);
         check.fine(x, "all but the first", x.thin(2, 3), 7);
         check.codewords(x, "the first", 2, 0);
+        // 110 alone covers 110 and more, 001 alone 011 and 101: 000 is the last that is asked, and goes.
+        SlipCovers y = Feeding.of("code a on 2 2 2: 000, 001, 110");
+        check.fine(y, "the first goes", y.thin(0, 1), 1);
+        check.codewords(y, "the first goes", 0, 1, 6);
         check.of("Promise 30: NONE: 1; 2.");
         check.refused(x, "r", x.thin(0, 25), 2);
         check.refused(x, "r", x.thin(0, -1), 2);
@@ -578,12 +616,23 @@ public final class PromiseBoundsTest {
         SlipCovers y = Feeding.of("code a on 2 2 2: 000, 001; code b on 2 2 2 2: 0000, 0001, 0010, 0100");
         check.fine(y, "000 goes, 110 comes", y.better(0, 1), 1);
         check.codewords(y, "by hand", 0, 1, 6);
-        Model m = new Model();
-        int[] n = Feeding.numbers("code a on 2 2 2 2: 0000, 0001, 0010, 0100");
-        for (int k = 0; k < n.length; k += 5) m.feed(n[k], n[k + 1], n[k + 2], n[k + 3], n[k + 4]);
-        m.text(41);
-        check.fine(y, "more than one", y.better(1, 1), m.better(0, 1));
-        for (int k = 0; k < 5; k++) check.fine(y, "as the model", y.word(1, k), m.word(0, k));
+        SlipCovers w = Feeding.of("code a on 2 2 2: 110, 111");
+        check.fine(w, "110 goes, 000 comes", w.better(0, 1), 1);
+        check.codewords(w, "the first word, too", 0, 0, 7);
+        String some = "code a on 2 2 2 2: 0000, 0001, 0010, 0100; code b on 3 3 3 3: 0000, 0001, 0002, 2222, 2221, 2220, 1220;"
+            + " code c on 3 3 2 4 weigh 1 2 1 2: 2213, 2212, 2211, 2210, 2203; code d on 4 4 4: 333, 332, 331, 330, 323";
+        SlipCovers v = Feeding.of(some);
+        Model m = modelOf(some);
+        for (int r = 1; r < 4; r++) {
+            for (int c = 0; c < 4; c++) {
+                check.fine(v, "exchanges of " + c + " by " + r, v.better(c, r), m.better(c, r));
+                for (int k = 0; k < 8; k++) check.due("codeword " + k, v.word(c, k), m.word(c, k));
+            }
+            for (int k = 0; k < 4; k++) {
+                v.undo();
+                m.undo();
+            }
+        }
         check.of("Promise 31: NONE: 1; 2; 5 (more than 81 WORDS)");
         check.refused(x, "96 words", x.better(3, 1), 5);
         check.refused(x, "r ahead of that", x.better(3, 25), 2);
@@ -620,6 +669,10 @@ public final class PromiseBoundsTest {
         SlipCovers x = Feeding.of("code a on 3 2 weigh 1 2: 00, 01, 11, 21; code b on 2 4 weigh 2 1: 03, 10, 12; code c on 2 2 weigh 1 1: 00; code d on 4 4 4 4: 0000");
         check.fine(x, "join", x.join(4, 0, 1), 7);
         check.places(x, "join", 4, 3, 1, 2, 2, 4, 1);
+        SlipCovers y = Feeding.of("code a on 3 2: 00, 10, 20; code b on 2 2: 00; code c on 2 2: 10, 11");
+        check.fine(y, "all end with 0, it begins with 0", y.join(3, 0, 1), 3);
+        check.codewords(y, "all end with 0, it begins with 0", 3, 0, 4, 8);
+        check.fine(y, "all end with 0, they begin with 1", y.join(3, 0, 2), 0);
         // 00 with 03; 01, 11, 21 with 10 and 12.
         check.codewords(x, "join", 4, 3, 4, 6, 12, 14, 20, 22);
         check.refused(x, "unlike sizes", x.join(4, 1, 0), 5);
@@ -688,6 +741,10 @@ public final class PromiseBoundsTest {
         check.fine(x, "none have it", x.shorter(2, 0, 0, 1), 0);
         check.fine(x, "to itself", x.shorter(0, 0, 0, 2), 1);
         check.places(x, "to itself", 0, 2, 1);
+        SlipCovers y = Feeding.of("code a on 2 2 2: 010, 110");
+        check.fine(y, "another digit there", y.shorter(1, 0, 1, 0), 0);
+        check.fine(y, "that digit there", y.shorter(1, 0, 1, 1), 2);
+        check.codewords(y, "that digit there", 1, 0, 2);
     }
 
     private static void promise36() {
@@ -705,6 +762,9 @@ public final class PromiseBoundsTest {
         check.codewords(x, "310, 211, 012", 2, 5, 16, 21);
         check.due("the last and the first", x.swap(3, 0, 2, 0), true);
         check.fine(x, "are the same", x.same(2, 3), 1);
+        x.set(0, 0, true);
+        check.due("the first word, too", x.swap(2, 0, 0, 2), true);
+        check.codewords(x, "the first word, too", 2, 0, 5, 16, 21);
         check.of("Promise 36: false: 1 (to, CODE, places)");
         for (int i : new int[] {-1, 3, 8, LEAST, MOST}) {
             check.refused(x, "place " + i, x.swap(1, 0, i, 0), 1);
@@ -732,6 +792,13 @@ public final class PromiseBoundsTest {
         }
         check.fine(x, "2 and 0 by 1", x.shift(4, 1, 0, 1) ? 1 : 0, 1);
         check.codewords(x, "1 and 2 are 2 and 0", 4, 0, 2);
+        SlipCovers y = Feeding.of("code a on 2 3 4: 000, 020, 123");
+        check.due("the first place", y.shift(1, 0, 0, 1), true);
+        check.codewords(y, "100, 120, 023", 1, 11, 12, 20);
+        check.due("the middle place", y.shift(1, 0, 1, 1), true);
+        check.codewords(y, "010, 000, 103", 1, 0, 4, 15);
+        check.due("the last place", y.shift(1, 0, 2, 3), true);
+        check.codewords(y, "003, 023, 122", 1, 3, 11, 22);
         check.of("Promise 37: false: 1 (to, CODE, place); 2");
         for (int k : new int[] {-1, 4, LEAST, MOST}) {
             check.refused(x, "k " + k, x.shift(4, 2, 0, k), 2);
@@ -758,6 +825,11 @@ public final class PromiseBoundsTest {
         check.refused(x, "to ahead of the spaces", x.mix(8, 0, 1, 0), 1);
         check.refused(x, "one", x.mix(4, 6, 3, 0), 1);
         check.refused(x, "other", x.mix(4, 0, 6, 0), 1);
+        SlipCovers y = Feeding.of("code a on 2 3 4: 000; code b on 3 3 4: 000; code c on 2 3 2: 000; code d on 2 3 4 weigh 2 1 1: 000");
+        check.refused(y, "the first size", y.mix(4, 0, 1, 0), 5);
+        check.refused(y, "the last size", y.mix(4, 0, 2, 0), 5);
+        check.refused(y, "the first weight", y.mix(4, 0, 3, 0), 5);
+        check.refused(y, "the first weight", y.mix(4, 3, 0, 0), 5);
         check.fine(x, "either", x.mix(4, 0, 3, 0), 2);
         check.fine(x, "both", x.mix(4, 0, 3, 1), 1);
         check.codewords(x, "both", 4, 0);
@@ -852,6 +924,10 @@ public final class PromiseBoundsTest {
             check.refused(x, "other " + c, x.same(0, c), 1);
             check.refused(x, "both " + c, x.same(c, c), 1);
         }
+        SlipCovers z = Feeding.of("code a on 2 3 4: 000; code b on 3 3 4: 000; code c on 2 3 2: 000; code d on 2 3 4 weigh 2 1 1: 000");
+        check.fine(z, "the first size", z.same(0, 1), 0);
+        check.fine(z, "the last size", z.same(0, 2), 0);
+        check.fine(z, "the first weight", z.same(0, 3), 0);
         SlipCovers y = Feeding.of("code a on 4 4 4 4: 0000; code b on 4 4 4 4: 0000");
         for (int w : new int[] {63, 64, 127, 128, 191, 192, 255}) {
             y.set(0, w, true);
@@ -873,6 +949,10 @@ public final class PromiseBoundsTest {
         int[][] none = {{0, 1}, {0, -1}, {1, 1}, {2, 6}, {2, 7}, {3, 2}, {4, 0}, {7, 0}, {8, 0}, {-1, 0},
             {LEAST, 0}, {MOST, 0}, {0, LEAST}, {0, MOST}, {0, 32}, {2, 32}, {-1, -1}};
         for (int[] n : none) check.due("letter " + n[0] + " " + n[1], throwsAt(x, n[0], n[1]), true);
+        int[] lengths = {1, 1, 6, 2};
+        for (int c = 0; c < 4; c++) {
+            for (int k = -7; k < 40; k++) check.due("letter " + c + " " + k, throwsAt(x, c, k), k < 0 || k >= lengths[c]);
+        }
         check.due("a new object", throwsAt(new SlipCovers(), 0, 0), true);
         x.sum(4, 0, 1);
         check.due("a code that an act made has no name", throwsAt(x, 4, 0), true);

@@ -10,9 +10,11 @@ public final class TermsBoundsTest {
         sizes();
         weights();
         words256();
+        all256();
         numbers();
         withoutCodewords();
         codes0to7();
+        oneAtATime();
         far();
         slips();
         balls();
@@ -147,6 +149,52 @@ public final class TermsBoundsTest {
         check.refused(x, "512 by longer", x.longer(4, 0, 2, 1), 3);
     }
 
+    private static void all256() {
+        check.of("Terms I: a SPACE of 256 WORDS, all of them CODEWORDS");
+        SlipCovers x = Feeding.of("code a on 4 4 4 4: 3333");
+        check.fine(x, "its hole", x.hole(0, 3, 80), 170);
+        check.fine(x, "centre of the last", x.centre(0, 0), 255);
+        check.fine(x, "worth of the last", x.worth(0, 255, 24), 256);
+        check.fine(x, "all but it came", x.greedy(0, 0), 255);
+        int[] about = {4, 256, 256, 4, 0, 1};
+        for (int k = 0; k < 6; k++) check.fine(x, "about " + k, x.about(0, k), about[k]);
+        check.fine(x, "the last", x.word(0, 255), 255);
+        check.fine(x, "no more", x.word(0, 256), -2);
+        check.fine(x, "ball", x.ballAt(0, 255, 24, 255), 255);
+        check.fine(x, "no more", x.ballAt(0, 255, 24, 256), -2);
+        check.fine(x, "covered", x.covered(0, 0), 256);
+        check.fine(x, "times", x.times(0, 255, 24), 256);
+        check.fine(x, "times", x.times(0, 255, 1), 13);
+        check.fine(x, "table", x.table(0, 1, 13), 256);
+        check.fine(x, "hole", x.hole(0, 0, 0), -2);
+        check.fine(x, "none idle", x.idle(0, 0, 0), -2);
+        check.fine(x, "all idle", x.idle(0, 1, 255), 255);
+        check.fine(x, "no more", x.idle(0, 1, 256), -2);
+        check.fine(x, "excess", x.excess(0, 1), 256 * 12);
+        check.fine(x, "pairs", x.pairs(0, 1), 128 * 12);
+        check.fine(x, "centre", x.centre(0, 0), 0);
+        check.fine(x, "its farthest", x.centre(0, 1), 4);
+        check.fine(x, "nearest", x.nearest(0, 255), 255);
+        check.fine(x, "ring", x.ring(0, 255, 4), 81);
+        check.fine(x, "column", x.column(0, 3, 3), 64);
+        check.fine(x, "worth", x.worth(0, 255, 0), 1);
+        check.fine(x, "worth", x.worth(0, 255, 1), 0);
+        check.fine(x, "shorter", x.shorter(1, 0, 3, 3), 64);
+        check.due("swap", x.swap(2, 0, 0, 3), true);
+        check.fine(x, "the same", x.same(0, 2), 1);
+        check.due("shift", x.shift(2, 0, 3, 3), true);
+        check.fine(x, "the same", x.same(0, 2), 1);
+        check.fine(x, "mix", x.mix(2, 0, 0, 0), 256);
+        check.fine(x, "holes", x.holes(3, 0, 0), 0);
+        check.fine(x, "holes of none", x.holes(3, 3, 0), 256);
+        check.fine(x, "the same", x.same(0, 3), 1);
+        check.fine(x, "longer", x.longer(3, 1, 4, 1), 256);
+        check.fine(x, "the same", x.same(0, 3), 1);
+        check.fine(x, "thin by 0", x.thin(0, 0), 0);
+        check.fine(x, "thin by all", x.thin(0, 4), 255);
+        check.codewords(x, "thin by all", 0, 0);
+    }
+
     private static void numbers() {
         check.of("Terms I: The NUMBER of a WORD: the first place the highest; WORDS are in order by NUMBERS, 0 ..");
         SlipCovers x = Feeding.of("code a on 4 3 2: 320, 001, 010, 321, 100, 000");
@@ -212,6 +260,36 @@ public final class TermsBoundsTest {
         for (int c : new int[] {-1, 8, Integer.MIN_VALUE, Integer.MAX_VALUE}) {
             check.refused(x, "none at " + c, x.about(c, 0), 1);
             check.refused(x, "not made at " + c, x.shift(c, 0, 0, 1), 1);
+        }
+    }
+
+    private interface OfCode {
+        int ask(SlipCovers x, int c);
+    }
+
+    private static void oneAtATime() {
+        check.of("Terms I: A CODE is a SPACE and some of its WORDS: of each its own, whichever was asked ahead of it");
+        OfCode[] calls = {
+            (x, c) -> x.about(c, 3), (x, c) -> x.about(c, 4), (x, c) -> x.about(c, 5), (x, c) -> x.digit(c, 5, 1),
+            (x, c) -> x.far(c, 5, 1), (x, c) -> x.ball(c, 2), (x, c) -> x.ballAt(c, 3, 2, 1), (x, c) -> x.covered(c, 2),
+            (x, c) -> x.times(c, 4, 2), (x, c) -> x.table(c, 2, 1), (x, c) -> x.hole(c, 1, 0), (x, c) -> x.idle(c, 3, 0),
+            (x, c) -> x.excess(c, 3), (x, c) -> x.bound(c, 2), (x, c) -> x.pairs(c, 2), (x, c) -> x.centre(c, 0),
+            (x, c) -> x.centre(c, 1), (x, c) -> x.nearest(c, 4), (x, c) -> x.ring(c, 4, 1), (x, c) -> x.column(c, 1, 1),
+            (x, c) -> x.worth(c, 0, 2), (x, c) -> x.fewest(c, 2, 0), (x, c) -> x.fewest(c, 2, 1), (x, c) -> x.fewest(c, 2, 3),
+            (x, c) -> x.greedy(c, 1), (x, c) -> x.thin(c, 2), (x, c) -> x.better(c, 1), (x, c) -> x.holes(7, c, 1),
+            (x, c) -> x.swap(7, c, 0, 1) ? x.word(7, 1) : -1, (x, c) -> x.shift(7, c, 1, 1) ? x.word(7, 1) : -1
+        };
+        String text = "code a on 2 3 weigh 2 1: 00, 01, 11; code b on 4 4 weigh 1 3: 00, 12, 22, 33";
+        for (int k = 0; k < calls.length; k++) {
+            for (int c = 0; c < 2; c++) {
+                int alone = calls[k].ask(Feeding.of(text), c);
+                for (int before = 0; before < calls.length; before++) {
+                    if (before >= 24 && before <= 26) continue;
+                    SlipCovers x = Feeding.of(text);
+                    calls[before].ask(x, 1 - c);
+                    check.due("call " + k + " of " + c + " behind call " + before, calls[k].ask(x, c), alone);
+                }
+            }
         }
     }
 
@@ -330,6 +408,9 @@ public final class TermsBoundsTest {
         check.fine(x, "three", x.about(1, 5), 1);
         x.set(0, 255, true);
         check.fine(x, "farthest", x.about(0, 5), 24);
+        x.set(0, 254, true);
+        check.fine(x, "the last two", x.about(0, 5), 3);
+        x.set(0, 254, false);
         x.set(0, 255, false);
         x.set(0, 0, false);
         check.fine(x, "none", x.about(0, 5), -2);
@@ -429,7 +510,9 @@ public final class TermsBoundsTest {
     private static void fewestOf81() {
         check.of("Terms II: FEWEST by r (in a SPACE of 81 WORDS or fewer)");
         found(space("3 3 3 3", "1 1 1 1"), 4, 1, 0);
-        check.fine(space("3 3 3 3", "1 1 1 1"), "81 words", space("3 3 3 3", "1 1 1 1").fewest(0, 2, 0), 3);
+        found(space("3 3 3 3", "1 1 1 1"), 2, 684, 0, 40, 80);
+        found(space("3 3 3 3", "1 1 1 1"), 3, 4293, 0, 1, 2);
+        found(space("3 3 4 2", "3 3 3 1"), 4, 59754, 0, 2, 36, 62, 68, 46);
         // There is no space of 82 to 95 words.
         for (String sizes : new String[] {"2 3 4 4", "2 2 2 2 2 3", "4 4 4 2", "4 4 4 4"}) {
             SlipCovers x = space(sizes, sizes.replaceAll("[0-9]", "1"));

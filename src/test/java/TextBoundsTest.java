@@ -14,6 +14,7 @@ public final class TextBoundsTest {
         firstFromTheLeft();
         leastNumber();
         formByTable();
+        formOfKeywords();
         formOfBytes();
         formOfTooMany();
         formOfWeights();
@@ -212,6 +213,22 @@ public final class TextBoundsTest {
         goesOn("code a on 3 2 : 10 ; code ", "x");
         goesOn("code a on 2:0;code b on 2:0;code c on 2:0;code d on 2:0 ", ",", ";", "");
         goesOn("code a on 2:0;code b on 2:0;code c on 2:0;code d on 2:0; ", "code");
+    }
+
+    private static void formOfKeywords() {
+        check.of("Terms I: 1 FORM: a NAME that is no code, on, weigh where one of these must be");
+        String text = "code a on 2 weigh 1: 0";
+        String[] words = {"code", "on", "weigh"};
+        for (String word : words) {
+            int at = text.indexOf(word);
+            for (int k = 0; k < word.length(); k++) {
+                for (char b : "az".toCharArray()) {
+                    check.faulty(text.substring(0, at + k) + b + text.substring(at + k + 1), 1, at);
+                }
+                check.faulty(text.substring(0, at + k) + text.substring(at + k + 1), 1, at);
+            }
+            check.faulty(text.substring(0, at) + word + "s" + text.substring(at + word.length()), 1, at);
+        }
     }
 
     private static void formOfBytes() {
