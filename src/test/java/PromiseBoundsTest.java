@@ -968,12 +968,32 @@ public final class PromiseBoundsTest {
         Feeding.text(x, "code mm on 2: 0");
         check.due("another", x.letter(0, 1), 12);
         check.due("no longer", throwsAt(x, 1, 0), true);
+        promise42BehindActs();
         check.of("Promise 42: it can't be refused: trouble() and where() stay");
         check.faulty(x, "code n on 9", 2, 10);
         check.due("letter", x.letter(0, 0), 12);
         check.due("none such", throwsAt(x, 1, 0), true);
         check.due("trouble", x.trouble(), 4);
         check.due("where", x.where(), 10);
+    }
+
+    /** A reading of the words: the TEXT has its NAMES until there is another, whatever acts bring to the slots. */
+    private static void promise42BehindActs() {
+        check.of("Promise 42: the NAME of a CODE of the TEXT, behind acts and undo");
+        SlipCovers x = Feeding.of("code k on 2: 0; code bc on 3 3: 12");
+        x.sum(0, 1, 1);
+        check.due("another code is in slot 0", x.letter(0, 0), 10);
+        x.swap(1, 0, 0, 3);
+        check.due("another code is in slot 1", x.letter(1, 1), 2);
+        check.due("its name has two letters", throwsAt(x, 1, 2), true);
+        x.holes(2, 1, 0);
+        check.due("slot 2, told by no text", throwsAt(x, 2, 0), true);
+        for (int k = 0; k < 3; k++) {
+            x.undo();
+            check.due("slot 0, acts undone", x.letter(0, 0), 10);
+            check.due("slot 1, acts undone", x.letter(1, 0), 1);
+            check.due("slot 2, acts undone", throwsAt(x, 2, 0), true);
+        }
     }
 
     private static void promise43and44() {
